@@ -22,6 +22,9 @@ public final class EnginesAsleep {
     private static final int LEAST_LENGTH = 10;
     private static final int GREATEST_LENGTH = 60;
 
+    /** More minutes than any run of calls can tell. */
+    private static final int ENDLESS = 1000000000;
+
     private static final int FRONT_HOOD = 1;
     private static final int BACK_HOOD = 2;
 
@@ -570,7 +573,8 @@ public final class EnginesAsleep {
 
         int stepsBetween(int from, int to) {
             int apart = from < to ? to - from : from - to;
-            return Math.min(apart, stalls + 1 - apart);
+            int round = stalls + 1 - apart;
+            return apart < round ? apart : round;
         }
 
         /** THE ROAD is no part of this ring: frost goes from the last stall to the first. */
@@ -1063,10 +1067,12 @@ public final class EnginesAsleep {
             for (int away = 1; away <= points / 2 && asideTo == NONE; away++) {
                 int up = stall + away < points ? stall + away : stall + away - points;
                 int down = stall >= away ? stall - away : stall - away + points;
-                if (canStandAt(s, other, Math.min(up, down))) {
-                    asideTo = Math.min(up, down);
-                } else if (canStandAt(s, other, Math.max(up, down))) {
-                    asideTo = Math.max(up, down);
+                int first = Math.min(up, down);
+                int second = Math.max(up, down);
+                if (first < circle.stalls && takesIt(s, first, other)) {
+                    asideTo = first;
+                } else if (second == circle.stalls || takesIt(s, second, other)) {
+                    asideTo = second;
                 }
             }
             if (asideTo == NONE) {
@@ -1117,10 +1123,10 @@ public final class EnginesAsleep {
         }
 
         int bestOrder(Standing s, int engines) {
-            best = Integer.MAX_VALUE;
+            best = ENDLESS;
             levels[0].takeFrom(s);
             tryOrders(engines, 0, 0);
-            if (best == Integer.MAX_VALUE) {
+            if (best == ENDLESS) {
                 return CANNOT;
             }
             told.empty();
@@ -1167,14 +1173,14 @@ public final class EnginesAsleep {
                 told.empty();
                 return 0;
             }
-            best = Integer.MAX_VALUE;
+            best = ENDLESS;
             bestFirst = NONE;
             if (fore == NONE) {
                 tryLastAway(s, rear, 0, NONE);
             } else if (yard.mayGo(s, fore, s.now)) {
                 tryBothAway(s, stall);
             }
-            if (best == Integer.MAX_VALUE) {
+            if (best == ENDLESS) {
                 return CANNOT;
             }
             told.empty();
@@ -1223,16 +1229,16 @@ public final class EnginesAsleep {
             if (many > 2) {
                 return CANNOT;
             }
-            best = Integer.MAX_VALUE;
+            best = ENDLESS;
             if (many == 1) {
                 tryUnderHood(s, smoking, 0, NONE, NONE);
-                if (best < Integer.MAX_VALUE) {
+                if (best < ENDLESS) {
                     told.tellTwo(lastMover, bestLast);
                     return 1;
                 }
             }
             tryTwoUnder(s, smoking);
-            if (best == Integer.MAX_VALUE) {
+            if (best == ENDLESS) {
                 return CANNOT;
             }
             told.tellTwo(bestMover, bestFirst);
@@ -1336,7 +1342,7 @@ public final class EnginesAsleep {
         /** A cost and a row are kept as one number: the row's stalls are its last six digits to base 24. */
         private static final int BASE = 24;
         private static final long ROWS = 191102976L;
-        private static final long FAR = Long.MAX_VALUE / 4;
+        private static final long FAR = 1L << 60;
         private static final long[] PLACE = {7962624L, 331776L, 13824L, 576L, 24L, 1L};
 
         private final Yard yard;
@@ -1587,7 +1593,6 @@ public final class EnginesAsleep {
         private final int[] gets = new int[MOST_COALED];
         private final int[] bestGets = new int[MOST_COALED];
         private boolean found = false;
-        private int together = 0;
 
         Bunker(Fleet itsFleet, Rows itsTold) {
             fleet = itsFleet;
@@ -1676,31 +1681,38 @@ public final class EnginesAsleep {
 
         int mostTogether(int engines) {
             callUp(engines);
-            together = 0;
-            int without = isShort() ? many : 0;
-            while (without < many && !canCoal(many - 1, without)) {
-                without++;
+            int all = isShort() ? 0 : (1 << many) - 1;
+            int best = 0;
+            // From the least bits on: of as many the first found stays.
+            for (int some = 1; some <= all; some++) {
+                if (Integer.bitCount(some) > Integer.bitCount(best) && canCoal(some, 0)) {
+                    best = some;
+                }
             }
-            told.tellOne(together);
-            return many - without;
+            int bits = 0;
+            for (int i = 0; i < many; i++) {
+                if ((best >> i & 1) != 0) {
+                    bits |= 1 << wanter[i];
+                }
+            }
+            told.tellOne(bits);
+            return Integer.bitCount(best);
         }
 
-        /** High numbers are left out first, so that the first way found has the least bits. */
-        private boolean canCoal(int i, int without) {
-            if (i < 0) {
+        private boolean canCoal(int some, int i) {
+            if (some >> i == 0 || i >= many) {
                 return true;
             }
-            if (without > 0 && canCoal(i - 1, without - 1)) {
-                return true;
+            if ((some >> i & 1) == 0) {
+                return canCoal(some, i + 1);
             }
             int tons = fleet.tons[wanter[i]];
             for (int grade = fleet.grade[wanter[i]]; grade < GRADES; grade++) {
                 if (canTake(tons, grade)) {
                     taken[grade] += tons;
-                    boolean can = canCoal(i - 1, without);
+                    boolean can = canCoal(some, i + 1);
                     taken[grade] -= tons;
                     if (can) {
-                        together |= 1 << wanter[i];
                         return true;
                     }
                 }
@@ -1716,7 +1728,7 @@ public final class EnginesAsleep {
         /** A cost and a row are kept as one number: the row's engines (NONE 0) are its last eight digits to base 13. */
         private static final int BASE = 13;
         private static final long ROWS = 815730721L;
-        private static final long FAR = Long.MAX_VALUE / 4;
+        private static final long FAR = 1L << 60;
         private static final long[] PLACE = {62748517L, 4826809L, 371293L, 28561L, 2197L, 169L, 13L, 1L};
 
         private final Yard yard;
@@ -1843,7 +1855,7 @@ public final class EnginesAsleep {
 
         int soonestFor(int train) {
             int first = CANNOT;
-            int fewest = Integer.MAX_VALUE;
+            int fewest = ENDLESS;
             for (int engine = 0; engine < yard.fleet.many; engine++) {
                 if (suits(engine, train)) {
                     int minutes = live.onRoad(engine) ? 0 : yard.freeing(live, engine);
@@ -1930,7 +1942,7 @@ public final class EnginesAsleep {
 
         /** The minute at which the first fire is begun; 'begun' tells each. */
         int beginFires(int w, int k) {
-            Arrays.fill(freeUntil, Integer.MAX_VALUE);
+            Arrays.fill(freeUntil, ENDLESS);
             int left = 0;
             for (int train = 0; train < many; train++) {
                 begun[train] = NONE;
@@ -1938,7 +1950,7 @@ public final class EnginesAsleep {
                     left |= 1 << train;
                 }
             }
-            int first = left == 0 ? NO_FIRES : Integer.MAX_VALUE;
+            int first = left == 0 ? NO_FIRES : ENDLESS;
             for (int i = 0; i < many && left != 0; i++) {
                 int train = latestOf(left);
                 int who = 0;
