@@ -1247,7 +1247,7 @@ public final class EnginesAsleep {
             return 2;
         }
 
-        /** The first move may be anyone's (it can clear the way, or change a place), the second is the last smoker's. */
+        /** The first move may be anyone's, as it can clear the way or fill a place; the second is the last smoker's. */
         private void tryTwoUnder(Standing s, int smoking) {
             Standing next = levels[0];
             for (int engine = 0; engine < yard.fleet.many; engine++) {
@@ -1793,7 +1793,7 @@ public final class EnginesAsleep {
                     && minute[train] - lit >= yard.fleet.raise[engine];
         }
 
-        /** How many trains are had; 'chosen' and 'parted' tell the row. One engine after the other gets a train or none. */
+        /** How many trains are had; 'chosen' and 'parted' tell the row. */
         int bestRow(int without, boolean nearPlan) {
             Arrays.fill(best, FAR);
             best[0] = 0;

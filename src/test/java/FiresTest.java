@@ -78,6 +78,13 @@ public final class FiresTest {
             x.light(e);
         }
         Check.due("none to light", x.men(20), 1);
+        Check.due("w 1", x.men(1), 1);
+        Check.due("w 120", x.men(120), 1);
+        EnginesAsleep y = planned(new int[] {100, 100, 100, 100, 100, 100}, new int[6]);
+        y.pass(80);
+        Check.due("six men", y.men(20), 6);
+        y.pass(1);
+        Check.due("six do not", y.men(20), -2);
     }
 
     private static EnginesAsleep standing(int... stalls) {
@@ -129,6 +136,15 @@ public final class FiresTest {
         Check.due("all eleven, far 0", z.frost(0), 11);
         Check.row("all eleven, far 0: the first of two", z, 0b011111111111);
         Check.due("all eleven, far 2", z.frost(2), 3);
+        EnginesAsleep w = new EnginesAsleep();
+        w.ring(12);
+        for (int e = 0; e < 12; e++) {
+            w.engine(10, 1, 0, false);
+            w.light(e);
+            w.move(e, e);
+        }
+        Check.due("twelve in twelve, far 0", w.frost(0), 12);
+        Check.row("twelve in twelve, far 0", w, 4095);
         Check.due("all eleven, far 5", z.frost(5), 1);
         Check.row("all eleven, far 5", z, 1);
     }

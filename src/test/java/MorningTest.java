@@ -196,7 +196,23 @@ public final class MorningTest {
         y.plan(0, 0);
         Check.due("equal ones: the first", y.why(0), 1);
         Check.row("equal ones: the first", y, 10, 10, 0);
-        y.drop(0);
+        EnginesAsleep u = standing(5, 5);
+        u.train(32, 0, 1);
+        u.plan(0, 0);
+        // Now 26: aside 5, its own 11: ought to begin at 21.
+        Check.due("all three are equal", u.why(0), 1);
+        Check.row("all three are equal", u, 5, 5, 5);
+        EnginesAsleep v = new EnginesAsleep();
+        v.engine(10, 1, 40, false);
+        v.engine(10, 1, 0, false);
+        v.light(1);
+        v.drag(0, 1, 5);
+        v.move(1, 5);
+        v.train(82, 0, 1);
+        v.plan(0, 0);
+        // Now 36: in steam at 76, ought to begin at 71.
+        Check.due("the second and the third are equal", v.why(0), 2);
+        Check.row("the second and the third are equal", v, 0, 5, 5);
         EnginesAsleep z = new EnginesAsleep();
         z.engine(10, 1, 50, false);
         z.engine(10, 1, 0, false);

@@ -147,7 +147,8 @@ public final class RingTest {
         Check.due("what 2", x.set(2, 1), -1);
         Check.due("what -1", x.set(-1, 1), -1);
         Check.due("TURN 9", x.set(0, 9), 1);
-        Check.due("TURN 3", x.set(0, 3), 9);
+        Check.due("TURN 1", x.set(0, 1), 9);
+        Check.due("TURN 3", x.set(0, 3), 1);
         Check.due("GO 9", x.set(1, 9), 2);
         Check.due("GO 0", x.set(1, 0), 9);
         x.engine(10, 0, 0, false);

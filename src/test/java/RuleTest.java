@@ -170,7 +170,6 @@ public final class RuleTest {
     private static void whatStays() {
         EnginesAsleep x = new EnginesAsleep();
         x.engine(10, 3, 0, false);
-        x.steps(0, 1);
         Check.due("a rule", Check.rule(x, "l>20"), 0);
         Check.due("it bars", x.takes(0, 0), 0);
         Check.due("a wrong one", Check.rule(x, "l>20+"), -6);

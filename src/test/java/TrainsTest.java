@@ -80,7 +80,6 @@ public final class TrainsTest {
 
     private static void most() {
         EnginesAsleep x = new EnginesAsleep();
-        x.steps(0, 1);
         Check.due("no trains", x.most(), 0);
         Check.row("no trains", x);
         x.train(50, 1, 1);
@@ -252,6 +251,7 @@ public final class TrainsTest {
         Check.due("rest 601", x.crews(601, 1), -1);
         Check.due("duty 0", x.crews(0, 0), -1);
         Check.due("duty 2001", x.crews(0, 2001), -1);
+        Check.due("the greatest", x.crews(600, 2000), 0);
         Check.due("no trains", x.crews(0, 1), 0);
         Check.row("no trains", x);
         x.train(100, 0, 50);
