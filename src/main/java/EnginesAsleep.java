@@ -1616,25 +1616,14 @@ public final class EnginesAsleep {
             found = false;
         }
 
-        /** A grade that is short already can't be made right by any way of coaling. */
-        private boolean isShort() {
-            for (int grade = 0; grade < GRADES; grade++) {
-                if (there[grade] < stays[grade]) {
-                    return true;
-                }
-            }
-            return false;
-        }
-
+        /** Asked of a grade only as one is coaled with it: a short one stands in nobody's way who goes by it. */
         private boolean canTake(int tons, int grade) {
             return there[grade] - taken[grade] - tons >= stays[grade];
         }
 
         int share(int engines, boolean isTaken) {
             callUp(engines);
-            if (!isShort()) {
-                tryGrades(0);
-            }
+            tryGrades(0);
             if (!found) {
                 return CANNOT;
             }
@@ -1681,7 +1670,7 @@ public final class EnginesAsleep {
 
         int mostTogether(int engines) {
             callUp(engines);
-            int all = isShort() ? 0 : (1 << many) - 1;
+            int all = (1 << many) - 1;
             int best = 0;
             // From the least bits on: of as many the first found stays.
             for (int some = 1; some <= all; some++) {

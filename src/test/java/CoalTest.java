@@ -5,6 +5,7 @@ public final class CoalTest {
         wants();
         coaled();
         stays();
+        shortGrade();
         fill();
         burns();
         Check.end();
@@ -95,9 +96,45 @@ public final class CoalTest {
         Check.due("just enough", x.coaled(3), 10);
         Check.row("just enough", x, 0, 0, 1, 0, 0);
         x.coal(2, 3, 4);
-        Check.due("a grade is below what has to stay", x.coaled(1), -2);
-        Check.due("then none can be coaled", x.burns(3), 0);
-        Check.row("then none can be coaled", x, 0);
+        Check.due("a grade nobody takes of is short", x.coaled(3), 10);
+        Check.row("what is there of it is told", x, 0, 0, 1, 0, 3);
+        Check.due("and all can be coaled together", x.burns(3), 2);
+        Check.row("and all can be coaled together", x, 3);
+    }
+
+    /** A grade that is short is left alone; another one serves. */
+    private static void shortGrade() {
+        EnginesAsleep x = of(3);
+        x.coal(0, 0, 1);
+        Check.due("wants none, of a better grade", x.coaled(1), 0);
+        Check.row("wants none, of a better grade", x, 1, 0, 0, 0);
+        x.coal(1, 6, 7);
+        Check.due("of the best", x.coaled(1), 0);
+        Check.row("of the best", x, 2, 0, 6, 0);
+        x.coal(2, 20, 21);
+        Check.due("all are short", x.coaled(1), -2);
+        Check.row("all are short: the row stays", x, 2, 0, 6, 0);
+        Check.due("all are short: fill", x.fill(1), -2);
+        Check.due("all are short: none together", x.burns(7), 0);
+        Check.row("all are short: none together", x, 0);
+        x.coal(0, 9, 10);
+        x.coal(1, 12, 2);
+        x.coal(2, 12, 12);
+        x.wants(0, 4, 0);
+        x.wants(1, 6, 1);
+        x.wants(2, 0, 2);
+        Check.due("just what has to stay is there of 2", x.coaled(7), 10);
+        Check.row("none of 0", x, 1, 1, 2, 9, 2, 12);
+        Check.due("all together", x.burns(7), 3);
+        x.coal(2, 11, 12);
+        Check.due("2 is short, and one wants no other", x.coaled(7), -2);
+        Check.due("the others can", x.burns(7), 2);
+        Check.row("the others can", x, 3);
+        Check.due("and are filled", x.fill(3), 10);
+        Check.row("and are filled", x, 1, 1, 9, 2, 11);
+        Check.due("0 stays as it is", x.coal(0, 0, 0), 9);
+        Check.due("1 is taken of", x.coal(1, 0, 0), 2);
+        Check.due("2 stays as it is", x.coal(2, 0, 0), 11);
     }
 
     private static void fill() {

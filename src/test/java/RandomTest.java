@@ -163,7 +163,7 @@ public final class RandomTest {
             case 33: if (pick(3) == 0) { both("nobody"); } break;
             case 34: case 35: tellAndPut(); break;
             case 36: if (o.n < 12) { both("room", bitsOf(pick(9) == 0 ? all : all & ~in, 12)); } break;
-            case 37: both("coal", pick(20) == 0 ? pick(5) - 1 : pick(3), pick(20) == 0 ? pick(1100) - 50 : pick(100), pick(20) == 0 ? pick(1100) - 50 : pick(15)); break;
+            case 37: both("coal", pick(20) == 0 ? pick(5) - 1 : pick(3), pick(20) == 0 ? pick(1100) - 50 : pick(100), pick(20) == 0 ? pick(1100) - 50 : pick(4) == 0 ? pick(60) : pick(15)); break;
             case 38: both("wants", engine(), pick(20) == 0 ? pick(60) - 10 : pick(41), pick(20) == 0 ? pick(5) - 1 : pick(3)); break;
             case 39: both("coaled", bitsOf(all, 8)); break;
             case 40: both("fill", bitsOf(all, 4)); break;
