@@ -1616,9 +1616,9 @@ public final class EnginesAsleep {
             found = false;
         }
 
-        /** Asked of a grade only as one is coaled with it: a short one stands in nobody's way who goes by it. */
+        /** What has to stay binds who takes: a short grade stands in nobody's way who takes nothing of it. */
         private boolean canTake(int tons, int grade) {
-            return there[grade] - taken[grade] - tons >= stays[grade];
+            return tons == 0 || there[grade] - taken[grade] - tons >= stays[grade];
         }
 
         int share(int engines, boolean isTaken) {

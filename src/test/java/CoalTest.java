@@ -6,6 +6,7 @@ public final class CoalTest {
         coaled();
         stays();
         shortGrade();
+        wantsNothing();
         fill();
         burns();
         Check.end();
@@ -102,39 +103,58 @@ public final class CoalTest {
         Check.row("and all can be coaled together", x, 3);
     }
 
-    /** A grade that is short is left alone; another one serves. */
+    /** A grade that is short is left alone by all who take of it; another one serves. */
     private static void shortGrade() {
         EnginesAsleep x = of(3);
-        x.coal(0, 0, 1);
-        Check.due("wants none, of a better grade", x.coaled(1), 0);
-        Check.row("wants none, of a better grade", x, 1, 0, 0, 0);
-        x.coal(1, 6, 7);
-        Check.due("of the best", x.coaled(1), 0);
-        Check.row("of the best", x, 2, 0, 6, 0);
-        x.coal(2, 20, 21);
-        Check.due("all are short", x.coaled(1), -2);
-        Check.row("all are short: the row stays", x, 2, 0, 6, 0);
-        Check.due("all are short: fill", x.fill(1), -2);
-        Check.due("all are short: none together", x.burns(7), 0);
-        Check.row("all are short: none together", x, 0);
         x.coal(0, 9, 10);
         x.coal(1, 12, 2);
         x.coal(2, 12, 12);
         x.wants(0, 4, 0);
         x.wants(1, 6, 1);
-        x.wants(2, 0, 2);
-        Check.due("just what has to stay is there of 2", x.coaled(7), 10);
-        Check.row("none of 0", x, 1, 1, 2, 9, 2, 12);
-        Check.due("all together", x.burns(7), 3);
-        x.coal(2, 11, 12);
-        Check.due("2 is short, and one wants no other", x.coaled(7), -2);
+        x.wants(2, 1, 2);
+        Check.due("one can take none of 2", x.coaled(7), -2);
         Check.due("the others can", x.burns(7), 2);
         Check.row("the others can", x, 3);
         Check.due("and are filled", x.fill(3), 10);
-        Check.row("and are filled", x, 1, 1, 9, 2, 11);
+        Check.row("and are filled", x, 1, 1, 9, 2, 12);
         Check.due("0 stays as it is", x.coal(0, 0, 0), 9);
         Check.due("1 is taken of", x.coal(1, 0, 0), 2);
-        Check.due("2 stays as it is", x.coal(2, 0, 0), 11);
+        Check.due("2 stays as it is", x.coal(2, 0, 0), 12);
+    }
+
+    /** One that wants 0 takes nothing, so its grade may be short: it is its own, the least row. */
+    private static void wantsNothing() {
+        EnginesAsleep x = of(4);
+        x.coal(0, 0, 1);
+        Check.due("its own is short", x.coaled(1), 0);
+        Check.row("its own is short", x, 0, 0, 0, 0);
+        x.coal(1, 6, 999);
+        x.coal(2, 20, 21);
+        Check.due("all are short", x.coaled(1), 0);
+        Check.row("all are short", x, 0, 0, 6, 20);
+        Check.due("all are short: fill", x.fill(1), 0);
+        Check.row("all are short: fill", x, 0, 0, 6, 20);
+        x.wants(1, 0, 1);
+        x.wants(2, 0, 2);
+        Check.due("three", x.fill(7), 0);
+        Check.row("each its own", x, 0, 1, 2, 0, 6, 20);
+        Check.due("three together", x.burns(7), 3);
+        Check.row("three together", x, 7);
+        x.wants(3, 1, 0);
+        Check.due("one that takes 1 can't", x.coaled(15), -2);
+        Check.row("the row stays", x, 7);
+        Check.due("one that takes 1 can't be filled", x.fill(8), -2);
+        Check.due("all but that one", x.burns(15), 3);
+        Check.row("all but that one", x, 7);
+        Check.due("that one alone", x.burns(8), 0);
+        Check.row("that one alone", x, 0);
+        x.coal(1, 6, 5);
+        Check.due("it takes of a better one", x.fill(15), 1);
+        Check.row("the others have their own yet", x, 0, 1, 2, 1, 0, 5, 20);
+        Check.due("once", x.fill(15), -2);
+        Check.due("1 is taken of", x.coal(1, 0, 0), 5);
+        Check.due("0 stays as it is", x.coal(0, 0, 0), 0);
+        Check.due("2 stays as it is", x.coal(2, 0, 0), 20);
     }
 
     private static void fill() {

@@ -750,8 +750,8 @@ final class Oracle {
                 grades.add(g);
             }
             for (int g = 0; g < 3; g++) {
-                // Of a grade that nobody is coaled with nothing is asked.
-                can &= !grades.subList(0, list.size()).contains(g) || left[g] >= stays[g];
+                // Of a grade of which nothing is taken nothing is asked.
+                can &= left[g] == there[g] || left[g] >= stays[g];
                 grades.add(left[g]);
             }
             if (!can) {
