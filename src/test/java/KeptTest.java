@@ -169,16 +169,15 @@ public final class KeptTest {
     }
 
     private static void refusedCallsChangeNothing() {
-        EnginesAsleep x = two();
-        x.light(0);
-        x.move(0, 3);
-        x.train(50, 1, 5);
-        x.plan(0, 0);
-        x.inside(3);
-        x.sign(0x30303030);
-        int[] odd = {Integer.MIN_VALUE, -3, -2, -1, 99, 1 << 20, Integer.MAX_VALUE};
-        String before = Check.seen(x);
-        for (int v : odd) {
+        for (int v : new int[] {Integer.MIN_VALUE, -3, -2, -1, 99, 1 << 20, Integer.MAX_VALUE}) {
+            EnginesAsleep x = two();
+            x.light(0);
+            x.move(0, 3);
+            x.train(50, 1, 5);
+            x.plan(0, 0);
+            x.inside(3);
+            x.sign(0x30303030);
+            String before = Check.seen(x);
             x.ring(v);
             x.stall(v, 30, 3);
             x.stall(3, v, 3);
@@ -239,7 +238,7 @@ public final class KeptTest {
                 x.burns(v | 1 << 30);
             }
             Check.same("refused calls with " + v, before, Check.seen(x));
+            Check.due("coal is as at first", x.coal(0, 0, 0), 0);
         }
-        Check.due("coal is as at first", x.coal(0, 0, 0), 0);
     }
 }

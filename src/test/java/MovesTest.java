@@ -161,8 +161,6 @@ public final class MovesTest {
         Check.due("one on the road", x.order(8 | 1), -1);
         Check.due("none such", x.order(1 << 12), -1);
         Check.due("the highest bit", x.order(Integer.MIN_VALUE), -1);
-        x.inside(10);
-        String before = Check.seen(x);
         Check.due("one alone", x.order(4), 2 + 4);
         Check.row("one alone", x, 2);
         Check.due("the front one first", x.order(3), 4 + 6 + 4 + 16);
@@ -170,7 +168,6 @@ public final class MovesTest {
         Check.due("three", x.order(7), 14 + 16 + 8);
         Check.row("three, as good as 2, 1, 0", x, 1, 0, 2);
         x.inside(10);
-        Check.same("order()", before, Check.seen(x));
         x.dead(1, true);
         Check.due("none can", x.order(3), -2);
         Check.row("the row stays", x);
