@@ -57,6 +57,7 @@ public final class FaceTest {
         }
         Check.due("methods " + got, got.equals(due), true);
         for (Field f : c.getDeclaredFields()) {
+            Check.due("static is final: " + f, !Modifier.isStatic(f.getModifiers()) || Modifier.isFinal(f.getModifiers()), true);
             if (!Modifier.isPrivate(f.getModifiers()) && !f.isSynthetic()) {
                 Check.due("field " + f.getName(), f.getName().equals("NONE"), true);
                 Check.due("NONE's kind", f.getModifiers(), Modifier.PUBLIC | Modifier.STATIC | Modifier.FINAL);
@@ -103,6 +104,8 @@ public final class FaceTest {
             "->", "::", "\\bsynchronized\\b", "\\bassert\\b", "\\bfinally\\b", "\\btry\\b", "\\bcatch\\b", "\\bpackage\\b",
             "Exact\\b", "\\bObject\\b", "\\bextends\\b", "\\bgetMessage\\b", "\\bThread\\b", "\\bRandom\\b",
             "\\bnanoTime\\b", "\\bcurrentTimeMillis\\b", "\\bprintln\\b", "\\bdouble\\b", "\\bfloat\\b", "\\bvar\\b",
+            "\"\\s*\\+", "\\+\\s*\"", "\\]\\s*\\[\\s*\\]", "while \\(true\\)", "for \\(;", "\\bequals\\(", "\\bhashCode\\(",
+            "\\btoString\\(", "\\blong\\[\\]\\[", "\\bInteger\\s", "\\bLong\\b", "\\bList\\b", "\\bthis\\b", "\\(\\w+\\[\\]\\)",
             "static\\s*\\{", "\\bprotected\\b", "\\bInteger\\.M", "\\bLong\\.M", "\\bString\\.format\\b", "\\binstanceof\\b",
         };
         for (String b : barred) {
@@ -115,6 +118,37 @@ public final class FaceTest {
         allMatch(code, "\\bMath\\.(\\w+)", List.of("min", "max"));
         allMatch(code, "\\bInteger\\.(\\w+)", List.of("bitCount", "numberOfTrailingZeros"));
         methodLengths(text);
+        madeOnce(code);
+        Check.due("of() throws twice, row() once", times(code, "\\bthrow new\\b"), 3);
+    }
+
+    private static int times(String code, String pattern) {
+        Matcher m = Pattern.compile(pattern).matcher(code);
+        int many = 0;
+        while (m.find()) {
+            many++;
+        }
+        return many;
+    }
+
+    /** What is made is made with an object: in a field's first value or in a constructor. Calls make nothing but what they throw. */
+    private static void madeOnce(String code) {
+        Pattern method = Pattern.compile("^ +(?:public |private |static )*(?:\\w+(?:\\[\\])? )?(\\w+)\\([^;]*\\{$");
+        String within = "";
+        for (String line : code.split("\n")) {
+            Matcher m = method.matcher(line);
+            if (m.find() && !line.contains("} else") && !line.contains(" if (") && !line.contains(" for (") && !line.contains(" while (") && !line.contains(" switch (")) {
+                within = m.group(1);
+            }
+            if (line.contains("class ")) {
+                within = "";
+            }
+            if (Pattern.compile("\\bnew\\b").matcher(line).find() && !line.contains("throw new")) {
+                boolean field = line.matches(" +private (final |static )*[\\w\\[\\]]+ \\w+ = new .*;");
+                boolean inConstructor = !within.isEmpty() && Character.isUpperCase(within.charAt(0));
+                Check.due("made in " + within + ":" + line, field || inConstructor, true);
+            }
+        }
     }
 
     private static void allMatch(String code, String pattern, List<String> allowed) {

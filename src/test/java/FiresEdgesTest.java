@@ -199,6 +199,10 @@ public final class FiresEdgesTest {
         Check.row("three men", z, 80, 85, 90, 140, 160);
         z.plan(0, -1);
         Check.due("four of them", z.fires(40, 3), 85);
+        EnginesAsleep u = planned(new int[] {125, 130, 135, 140, 190, 200}, new int[6]);
+        // The fifth by the first man, free till 160; the sixth by the second, free till 150, not by one free till 100.
+        Check.due("four men", u.fires(40, 4), 85);
+        Check.row("four men", u, 85, 90, 95, 100, 150, 160);
         EnginesAsleep y = planned(new int[] {100, 140, 180}, new int[3]);
         Check.due("he is free just then", y.fires(40, 1), 60);
         Check.row("he is free just then", y, 60, 100, 140);
