@@ -18,6 +18,7 @@ public final class BerthsEdgesTest {
         putJustAsLong();
         putTwoInOne();
         putWithTheLaterInFront();
+        putBehindOneAlone();
         putAsTheRuleSays();
         putCosts();
         putOfEqualOnes();
@@ -354,6 +355,23 @@ public final class BerthsEdgesTest {
         x.stall(10, 30, 3);
         x.put();
         Check.row("both hoods of 10", x, 10, 10);
+    }
+
+    /** One that alone may stand at a BACK stands behind one other one, not behind two. */
+    private static void putBehindOneAlone() {
+        EnginesAsleep x = lastInFirstOut(10, 15, 15);
+        Check.rule(x, "l=10&b|l=15&!b");
+        Check.due("two have none behind them but the same", x.put(), -2);
+        EnginesAsleep u = lastInFirstOut(10, 15, 15, 10);
+        Check.rule(u, "l=10&b|l=15&!b");
+        Check.due("another one comes too late for that", u.put(), -2);
+        EnginesAsleep y = lastInFirstOut(10, 15, 10, 15);
+        Check.rule(y, "l=10&b|l=15&!b");
+        Check.due("one each", y.put(), 4 * 4);
+        Check.row("one each", y, 0, 0, 10, 10);
+        EnginesAsleep z = lastInFirstOut(15, 10, 15);
+        Check.rule(z, "l=10&b|l=15&!b");
+        Check.due("the first has none behind it", z.put(), -2);
     }
 
     /** "THE RULE is asked for each place (as NOW)" */

@@ -33,6 +33,7 @@ public final class MorningEdgesTest {
         whyTheTable();
         whySteam();
         whyTheOneInFront();
+        whyNoneInFront();
         whyOnTheRoad();
         whyTheFirstOfEqualOnes();
         whyNothingBelowNothing();
@@ -563,6 +564,18 @@ public final class MorningEdgesTest {
         x.set(0, 2);
         // Aside 4 + 18, its own 4 + 12 + 18: it ought to begin at 7.
         why("GO 9, TURN 2", x, 0, 3, 19, 19, 22);
+    }
+
+    /** Another TRAIN's one in FRONT is none of its own. */
+    private static void whyNoneInFront() {
+        EnginesAsleep x = standing(5, 5, 2);
+        // 26, then 6 + 3 + 4: NOW 39, the table at 2.
+        trains(x, 39, 40);
+        plan(x, 0, 2);
+        // 1 aside to 4: 3 + 1 + 4, 0: 1 + 6 + 4: 58; 2: 58 + 3 + 3 + 4 = 68, it ought to begin at 30.
+        morning("one of two has one in front", x, 19 + 28, 19, 28);
+        why("it has one in front", x, 0, 1, 11, 11, 8);
+        why("it has none in front", x, 1, 1, 28, 9, 0);
     }
 
     /** "(0 on THE ROAD)", "1 is 0 on THE ROAD" */

@@ -44,6 +44,7 @@ public final class MovesEdgesTest {
         underNotToTheRoad();
         underByTwo();
         underByOneFromTheRoad();
+        underOfTwelve();
         underAsTimeGoes();
         underTwoDoNot();
         onlyAsk();
@@ -781,6 +782,27 @@ public final class MovesEdgesTest {
         Check.row("1 to 2", x, 1, 2, 0, 2);
         x.dead(1, true);
         Check.due("1 is dead", x.under(), -2);
+    }
+
+    /** Of twelve, one or two smoke. */
+    private static void underOfTwelve() {
+        EnginesAsleep x = lit(10, 10, 10, 10, 10, 10, 10, 10, 10, 10, 10, 10);
+        x.move(11, 5);
+        x.move(10, 5);
+        x.stall(5, 30, 1);
+        Check.due("the back one smokes", x.under(), 2);
+        Check.row("the back one smokes", x, 10, 4, 11, 4);
+        x.stall(5, 30, 2);
+        Check.due("the front one smokes", x.under(), 1);
+        Check.row("the front one smokes", x, 10, 4);
+        x.stall(5, 30, 0);
+        for (int s = 0; s < 11; s++) {
+            x.shut(s, s != 9);
+        }
+        Check.due("both smoke", x.under(), 2);
+        Check.row("both smoke", x, 10, 9, 11, 9);
+        x.stall(9, 10, 3);
+        Check.due("there is room for one", x.under(), -2);
     }
 
     /** The second MOVE begins as the first is done: who is in steam then may go. */
